@@ -1,0 +1,27 @@
+/** Counts the answers that are not the ones due, and ends a test. */
+final class Check {
+    private static int wrong = 0;
+
+    private Check() {}
+
+    static void due(String call, long got, long want) {
+        if (got != want) {
+            wrong++;
+            System.out.println(call + " answered " + got + ", due is " + want);
+        }
+    }
+
+    static void holds(String what, boolean holds) {
+        if (!holds) {
+            wrong++;
+            System.out.println("does not hold: " + what);
+        }
+    }
+
+    static void end() {
+        System.out.println(wrong == 0 ? "all as due" : wrong + " not as due");
+        if (wrong != 0) {
+            System.exit(1);
+        }
+    }
+}
