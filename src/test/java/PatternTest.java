@@ -145,6 +145,7 @@ public final class PatternTest {
     private static void kindLess() {
         SequencePatterns first = withSteps(4, 2);
         Check.due("kind 2: anything may be first", first.event(0, 9, 0), 1);
+        Check.due("kind 2: anything may be first again", first.event(0, 9, 0), 1);
         SequencePatterns x = withSteps(4, 0, 4, 2);
         Check.due("kind 2: alone", x.event(0, 5, 0), 0);
         Check.due("kind 2: same", x.event(0, 5, 0), 0);

@@ -120,6 +120,18 @@ public final class QueryTest {
         SequencePatterns one = new SequencePatterns();
         one.event(0, 0, 5);
         Check.due("13: tightest() of one event", one.tightest(), 0);
+        SequencePatterns shorter = new SequencePatterns();
+        shorter.begin();
+        shorter.step(0, 0, 0);
+        shorter.step(0, 0, 0);
+        shorter.event(0, 0, 5);
+        shorter.event(0, 0, 5);
+        shorter.event(0, 0, 3);
+        Check.due("13: the tightest need not begin first", shorter.tightest(), 3);
+        shorter.restart();
+        shorter.event(0, 0, 4);
+        shorter.event(1, 0, 1);
+        Check.due("13: no event that was taken away", shorter.tightest(), -4);
     }
 
     private static void lastValues() {
