@@ -227,21 +227,17 @@ public final class SequencePatterns {
 
     private void growTo(int e, int first) {
         for (int k = 0; k < stepCount; k++) {
+            int to = e * MAX_STEPS + k;
             for (int before = first; before < e; before++) {
-                if (suits(e, k, before, first)) {
-                    takeAfter(before, e, k);
+                int from = before * MAX_STEPS + k;
+                boolean suited = suits(e, k, before, first);
+                if (suited && repeats[k] == 1) {
+                    lengthen(from, to);
+                }
+                if (suited && k > 0) {
+                    lengthen(from - 1, to);
                 }
             }
-        }
-    }
-
-    private void takeAfter(int before, int e, int k) {
-        int to = e * MAX_STEPS + k;
-        if (repeats[k] == 1) {
-            lengthen(before * MAX_STEPS + k, to);
-        }
-        if (k > 0) {
-            lengthen(before * MAX_STEPS + k - 1, to);
         }
     }
 
