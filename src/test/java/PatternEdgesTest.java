@@ -238,6 +238,15 @@ public final class PatternEdgesTest {
         Check.due("3: the fourth is of type 3", x.event(0, 0, 0), 0);
         Check.due("3: the fourth takes one event", x.event(3, 0, 0), 1);
         Check.due("3: four events", x.longest(), 4);
+        SequencePatterns bounds = new SequencePatterns();
+        bounds.begin();
+        for (int k = 0; k < 4; k++) {
+            bounds.step(4, k, 3);
+        }
+        bounds.step(4, 9, 3);
+        Make.values(bounds, 0, 1, 2);
+        Check.due("3: the fourth has no new bound", bounds.event(0, 9, 0), 0);
+        Check.due("3: the fourth has its bound", bounds.event(0, 3, 0), 1);
     }
 
     /** A step may come when there are events: none, one or ten. */

@@ -132,11 +132,15 @@ public final class QueryEdgesTest {
         for (int e = 0; e < 10; e++) {
             SequencePatterns x = Make.pattern(1, REPEAT);
             for (int n = 0; n < 10; n++) {
-                x.event(n == e ? 1 : 0, 0, 5);
+                x.event(n == e ? 1 : 0, n, 5);
             }
             for (int n = 0; n < 10; n++) {
                 asked("only event " + e + " is found", x, n, n == e ? 1 : 0, n == e ? 0 : 1);
             }
+            Check.due("8: only event " + e + " is found", x.finds(), 1);
+            Check.due("12: only event " + e + " is found", x.longest(), 1);
+            Check.due("13: only event " + e + " is found", x.tightest(), 0);
+            Check.due("14: only event " + e + " is found", x.lastValues(), e);
         }
     }
 
@@ -210,6 +214,14 @@ public final class QueryEdgesTest {
         last.event(1, 0, 0);
         // {0,1,2,4}; the finds that begin at event 3 are shorter.
         Check.due("12: of all finds, not of the newest", last.longest(), 4);
+        SequencePatterns rising = Make.pattern(0, 0, 1, 1 + REPEAT);
+        rising.event(0, 5, 0);
+        rising.event(1, 1, 0);
+        rising.event(1, 2, 0);
+        rising.event(1, 3, 0);
+        rising.event(1, 6, 0);
+        // 1, 2, 3, 6 rise, but 1 can't follow 5: there is {0,4} alone.
+        Check.due("12: what rises without a beginning is no find", rising.longest(), 2);
     }
 
     private static void longestInItsWindow() {

@@ -26,16 +26,18 @@ public final class RefusalTest {
         }
     }
 
-    private static final int[] WINDOWS = {40, 9, 0};
+    private static final int[] WINDOWS = {40, 9, 0, 20};
     private static final int[][] STEPS = {
         {4, 0, 8, 4, 0, 8, 4, 0, 8, 4, 0, 8},
         {0, 3, 9, 4, 6, 2, 1, 5, 11, 4, 9, 12},
         {4, 1, 0, 1, 7, 0, 4, 2, 10, 2, 2, 0},
+        {4, 2, 11, 4, 5, 3, 3, 7, 11, 4, 6, 3},
     };
     private static final int[][] EVENTS = {
         {0, 9, 0, 1, 8, 4, 2, 7, 4, 3, 6, 4, 0, 5, 4, 1, 4, 4, 2, 3, 4, 3, 2, 4, 0, 1, 4, 1, 9, 4},
         {0, 1, 5, 0, 6, 0, 1, 5, 2, 1, 5, 1, 0, 1, 0, 2, 4, 3, 1, 5, 0, 3, 1, 1, 0, 6, 2, 1, 5, 0},
         {3, 9, 5, 1, 7, 0, 0, 5, 0, 2, 4, 0, 1, 8, 0, 1, 6, 1, 1, 4, 0, 0, 2, 0, 2, 0, 0, 2, 1, 0},
+        {0, 2, 1, 1, 5, 2, 2, 2, 0, 3, 5, 1, 3, 7, 5, 3, 7, 0, 0, 6, 4, 1, 5, 3, 3, 7, 2, 2, 6, 1},
     };
     private static final int WAYS_ON = 5;
     private static final int[] EVENT_COUNTS = {0, 1, 2, 9, 10};
