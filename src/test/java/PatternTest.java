@@ -1,6 +1,6 @@
 /** Promises 1 to 4: a new object, begin, step and window, and what the kinds of bound mean. */
 public final class PatternTest {
-    private static final int REPEAT = 8;
+    private static final int REPEAT = Make.REPEAT;
 
     public static void main(String[] args) {
         newObject();
@@ -111,7 +111,7 @@ public final class PatternTest {
 
     private static void stepTypes() {
         for (int type = 0; type <= 4; type++) {
-            SequencePatterns x = withSteps(type, 0);
+            SequencePatterns x = Make.pattern(type, 0);
             for (int e = 0; e <= 3; e++) {
                 Check.due("3: type " + type + " and event of type " + e, x.event(e, 0, 0),
                         type == 4 || type == e ? 1 : 0);
@@ -120,7 +120,7 @@ public final class PatternTest {
     }
 
     private static void kindNone() {
-        SequencePatterns x = withSteps(4, 0, 4, 0);
+        SequencePatterns x = Make.pattern(4, 0, 4, 0);
         Check.due("kind 0: first", x.event(0, 5, 0), 0);
         Check.due("kind 0: less", x.event(0, 4, 0), 1);
         Check.due("kind 0: same", x.event(0, 4, 0), 2);
@@ -128,30 +128,30 @@ public final class PatternTest {
     }
 
     private static void kindGreater() {
-        SequencePatterns first = withSteps(4, 1);
+        SequencePatterns first = Make.pattern(4, 1);
         Check.due("kind 1: anything may be first", first.event(0, 0, 0), 1);
         Check.due("kind 1: anything may be first again", first.event(0, 0, 0), 1);
-        SequencePatterns x = withSteps(4, 0, 4, 1);
+        SequencePatterns x = Make.pattern(4, 0, 4, 1);
         Check.due("kind 1: alone", x.event(0, 5, 0), 0);
         Check.due("kind 1: same", x.event(0, 5, 0), 0);
         Check.due("kind 1: less", x.event(0, 4, 0), 0);
         Check.due("kind 1: one more than two and two more than one", x.event(0, 6, 0), 3);
-        SequencePatterns before = withSteps(4, 0, 4, 0, 4, 1);
+        SequencePatterns before = Make.pattern(4, 0, 4, 0, 4, 1);
         before.event(0, 9, 0);
         before.event(0, 1, 0);
         Check.due("kind 1: against the one just before, not the first", before.event(0, 2, 0), 1);
     }
 
     private static void kindLess() {
-        SequencePatterns first = withSteps(4, 2);
+        SequencePatterns first = Make.pattern(4, 2);
         Check.due("kind 2: anything may be first", first.event(0, 9, 0), 1);
         Check.due("kind 2: anything may be first again", first.event(0, 9, 0), 1);
-        SequencePatterns x = withSteps(4, 0, 4, 2);
+        SequencePatterns x = Make.pattern(4, 0, 4, 2);
         Check.due("kind 2: alone", x.event(0, 5, 0), 0);
         Check.due("kind 2: same", x.event(0, 5, 0), 0);
         Check.due("kind 2: greater", x.event(0, 6, 0), 0);
         Check.due("kind 2: less than three", x.event(0, 4, 0), 3);
-        SequencePatterns before = withSteps(4, 0, 4, 0, 4, 2);
+        SequencePatterns before = Make.pattern(4, 0, 4, 0, 4, 2);
         before.event(0, 1, 0);
         before.event(0, 9, 0);
         Check.due("kind 2: against the one just before, not the first", before.event(0, 5, 0), 1);
@@ -175,37 +175,37 @@ public final class PatternTest {
     }
 
     private static void kindSameAsFirst() {
-        SequencePatterns first = withSteps(4, 4);
+        SequencePatterns first = Make.pattern(4, 4);
         Check.due("kind 4: the first one is the same as itself", first.event(0, 3, 0), 1);
-        SequencePatterns x = withSteps(4, 0, 4, 0, 4, 4);
+        SequencePatterns x = Make.pattern(4, 0, 4, 0, 4, 4);
         x.event(0, 5, 0);
         x.event(0, 2, 0);
         Check.due("kind 4: the same as the one just before only", x.event(0, 2, 0), 0);
         Check.due("kind 4: the same as the very first", x.event(0, 5, 0), 2);
-        SequencePatterns repeated = withSteps(4, 4 + REPEAT);
+        SequencePatterns repeated = Make.pattern(4, 4 + REPEAT);
         repeated.event(0, 1, 0);
         Check.due("kind 4: repeated, another value", repeated.event(0, 2, 0), 1);
         Check.due("kind 4: repeated, the value of the first", repeated.event(0, 1, 0), 2);
     }
 
     private static void repeats() {
-        SequencePatterns rising = withSteps(4, 1 + REPEAT);
+        SequencePatterns rising = Make.pattern(4, 1 + REPEAT);
         rising.event(0, 1, 0);
         rising.event(0, 3, 0);
         Check.due("repeat 1: a bound inside a part", rising.event(0, 2, 0), 2);
         Check.due("repeat 1: all rising lists", rising.event(0, 4, 0), 6);
-        SequencePatterns second = withSteps(0, 0, 1, REPEAT);
+        SequencePatterns second = Make.pattern(0, 0, 1, REPEAT);
         Check.due("repeat 1: a part has at least one event", second.event(0, 0, 0), 0);
         Check.due("repeat 1: one", second.event(1, 0, 0), 1);
         Check.due("repeat 1: one or two", second.event(1, 0, 0), 2);
-        SequencePatterns single = withSteps(0, 0, 1, 0);
+        SequencePatterns single = Make.pattern(0, 0, 1, 0);
         single.event(0, 0, 0);
         single.event(1, 0, 0);
         Check.due("repeat 0: just one", single.event(1, 0, 0), 1);
     }
 
     private static void cutsAreDifferentFinds() {
-        SequencePatterns x = withSteps(4, REPEAT, 4, REPEAT);
+        SequencePatterns x = Make.pattern(4, REPEAT, 4, REPEAT);
         x.event(0, 0, 0);
         Check.due("cuts: two events", x.event(0, 0, 0), 1);
         // {0,2}, {1,2} with one cut each, {0,1,2} with two
@@ -225,7 +225,7 @@ public final class PatternTest {
     }
 
     private static void windowEdges() {
-        SequencePatterns x = withSteps(4, 0, 4, 0);
+        SequencePatterns x = Make.pattern(4, 0, 4, 0);
         x.event(0, 0, 5);
         x.event(0, 0, 0);
         x.event(0, 0, 4);
@@ -238,28 +238,18 @@ public final class PatternTest {
         Check.due("4: window 4", x.finds(), 4);
         x.window(5);
         Check.due("4: window 5", x.finds(), 6);
-        SequencePatterns whole = withSteps(0, 0, 1, 0, 2, 0);
+        SequencePatterns whole = Make.pattern(0, 0, 1, 0, 2, 0);
         whole.event(0, 0, 0);
         whole.event(1, 0, 5);
         Check.due("4: the last less the first, at the window", whole.event(2, 0, 5), 1);
         whole.window(9);
         Check.due("4: the last less the first, beyond the window", whole.finds(), 0);
-        SequencePatterns far = withSteps(0, 0, 1, 0);
+        SequencePatterns far = Make.pattern(0, 0, 1, 0);
         far.event(0, 0, 5);
         for (int n = 0; n < 8; n++) {
             far.event(2, 0, 5);
         }
         far.window(40);
         Check.due("4: beyond 40", far.event(1, 0, 5), 0);
-    }
-
-    /** A new object whose pattern has a step for each pair of type and kindAndRepeat. */
-    private static SequencePatterns withSteps(int... typesAndKinds) {
-        SequencePatterns x = new SequencePatterns();
-        x.begin();
-        for (int i = 0; i < typesAndKinds.length; i += 2) {
-            x.step(typesAndKinds[i], 0, typesAndKinds[i + 1]);
-        }
-        return x;
     }
 }

@@ -188,13 +188,15 @@ public final class SentencesTest {
     /** What an object answers after its 512th call is free, but it still answers. */
     private static void neverThrowsAfter512Calls() {
         SequencePatterns x = new SequencePatterns();
-        for (int round = 0; round < 2000; round++) {
-            int a = NUMBERS[round % NUMBERS.length];
+        for (int round = 0; round < 10000; round++) {
             callAll(x, round % 4, round % 10, round % 6);
-            callAll(x, a, round % 10, round % 13);
-            if (round % 50 == 0) {
-                x.restart();
+            callAll(x, NUMBERS[round % NUMBERS.length], round % 10, round % 13);
+            // Both often, but seldom at once, so that there is every number of steps and events.
+            if (round % 5 == 0) {
                 x.begin();
+            }
+            if (round % 14 == 0) {
+                x.restart();
             }
         }
     }
