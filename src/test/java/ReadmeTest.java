@@ -117,8 +117,9 @@ public final class ReadmeTest {
         for (Path test : projectTests()) {
             all.add("main/" + test);
         }
-        for (Path test : javaFiles(SHARED_TESTS)) {
-            all.add("shared/tests/" + SHARED_TESTS.relativize(test));
+        Path shared = SHARED_TESTS.toRealPath();
+        for (Path test : javaFiles(shared)) {
+            all.add("shared/tests/" + shared.relativize(test));
         }
         List<String> four = List.of("main/src/test/java/FirstTest.java", "main/src/test/java/SecondTest.java",
                 "shared/tests/Third.java", "shared/tests/deeper/Fourth.java");
